@@ -165,7 +165,7 @@ public final class FoundLast {
         }
         Scene now = house.now;
         int creaks = house.creaksBetween(now.room[heir], room);
-        if (now.how[heir] != IN || creaks == 0 || now.moved[heir]) {
+        if (now.how[heir] != IN || creaks == 0 || now.moved[heir] == 1) {
             return refuseNo();
         }
         past.keep(now);
@@ -450,20 +450,20 @@ public final class FoundLast {
         final int[] stayed = new int[HEIRS_MOST];
         final int[] how = new int[HEIRS_MOST];
         final int[] since = new int[HEIRS_MOST];
-        final boolean[] moved = new boolean[HEIRS_MOST];
+        final int[] moved = new int[HEIRS_MOST];
 
         void place(int heir, int where) {
             room[heir] = where;
             stayed[heir] = 0;
             how[heir] = IN;
             since[heir] = NONE;
-            moved[heir] = false;
+            moved[heir] = 0;
         }
 
         void go(int heir, int where) {
             room[heir] = where;
             stayed[heir] = 0;
-            moved[heir] = true;
+            moved[heir] = 1;
         }
 
         /** The end of a NIGHT for those whose bits are told, and for all others. */
@@ -476,7 +476,7 @@ public final class FoundLast {
                 } else if (how[h] == IN) {
                     stayed[h]++;
                 }
-                moved[h] = false;
+                moved[h] = 0;
             }
             night++;
         }
@@ -739,7 +739,7 @@ public final class FoundLast {
                 h = 31 * h + now.stayed[i];
                 h = 31 * h + now.how[i];
                 h = 31 * h + now.since[i];
-                h = 31 * h + (now.moved[i] ? 1 : 0);
+                h = 31 * h + now.moved[i];
             }
             return h;
         }
@@ -918,7 +918,7 @@ public final class FoundLast {
             empty(ahead);
             lower(ahead, scene.room[heir], scene.stayed[heir], 0);
             for (int i = 0; i < WAY_NIGHTS && foundIn == NONE; i++) {
-                spread(house, i > 0 || !house.now.moved[heir]);
+                spread(house, i > 0 || house.now.moved[heir] == 0);
                 passNight(house, heir);
             }
         }
