@@ -1165,7 +1165,6 @@ public final class FoundLast {
         /** A 13th room is left for the stop, which it is not. */
         private void takeList(House house) {
             advance();
-            house.rowSize = 0;
             for (int i = 0; i < LIST_MOST && (i == 0 || token == NUMBER); i++) {
                 int room = number(0, ROOMS - 1);
                 if (fault != NONE) {

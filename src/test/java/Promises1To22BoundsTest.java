@@ -6,6 +6,7 @@ public final class Promises1To22BoundsTest {
     public static void main(String[] args) {
         aNewObject();
         aHouseOverAFullOne();
+        heirsOfAnotherHouse();
         fullOfRooms();
         fullOfHeirs();
         fullOfBytes();
@@ -27,6 +28,7 @@ public final class Promises1To22BoundsTest {
         wayWithoutADoor();
         wayNotOut();
         wayFewestCreaks();
+        wayOfOneWhoStays();
         wayNo();
         chooseWithoutADoor();
         chooseLeastRoom();
@@ -112,6 +114,32 @@ public final class Promises1To22BoundsTest {
         counts("from it", x, 6, 25, 0, 9, 6, 12, 6, 8, 150);
         FoundLast y = Due.livedIn();
         Due.is("out and found are counted, too", y.house(10, 3), 5);
+    }
+
+    private static void heirsOfAnotherHouse() {
+        Due.sentence("promise 2: all else as at first (those who come then have nothing of those who were there)");
+        FoundLast x = Due.livedIn();
+        x.house(10, 3);
+        FoundLast y = new FoundLast();
+        for (int h = 0; h < 6; h++) {
+            x.heir(0, h, h);
+            y.heir(0, h, h);
+        }
+        for (int h = 0; h < 6; h++) {
+            for (int what = 0; what <= 6; what++) {
+                Due.is("of " + h + " " + what, x.of(h, what), y.of(h, what));
+            }
+        }
+        x.door(1, 0, 3);
+        Due.is("none has moved", x.move(1, 0), 3);
+        FoundLast z = Due.livedIn();
+        Due.is("read", z.read(), 10);
+        for (int h = 0; h < 5; h++) {
+            Due.is("stayed " + h, z.of(h, 3), 0);
+            Due.is("how " + h, z.of(h, 5), 0);
+            Due.is("since " + h, z.of(h, 6), FoundLast.NONE);
+        }
+        Due.is("none has moved, too", z.move(1, 2), 3);
     }
 
     private static void fullOfHeirs() {
@@ -470,6 +498,29 @@ public final class Promises1To22BoundsTest {
         Due.is("at once by none", y.way(0, 1), 0);
     }
 
+    private static void wayOfOneWhoStays() {
+        Due.sentence("WAY: MOVING by a DOOR, or staying, ahead of each NIGHT (who stays has STAYED for one NIGHT more)");
+        FoundLast x = Due.told("house 8 0;list 7 7 0;door 0 1 4;heir 3 0 0;");
+        Due.is("stayed for 2: 7", x.way(0, 0), 2);
+        Due.is("by no door", x.way(0, 1), 0);
+        x.eyes(7);
+        Due.is("7 is too much then", x.way(0, 0), 2);
+        Due.is("there and back", x.way(0, 1), 8);
+        x.eyes(6);
+        Due.is("he came back just now: 5", x.way(0, 1), 8);
+        x.eyes(5);
+        Due.is("hidden as much as eyes at the least", x.way(0, 0), FoundLast.NONE);
+        FoundLast y = Due.told("house 1 0;room 0 0;list 7 0;heir 4 0 5;door 0 1 4;");
+        Due.is("a bell: staying hides it", y.way(0, 0), 1);
+        Due.is("so it goes and comes", y.way(0, 1), 8);
+        y.eyes(3);
+        Due.is("2 by staying", y.way(0, 1), 0);
+        FoundLast z = Due.told("house 11 0;list 7 7 7 7 7 7 7 0 0 0 0 0;heir 3 0 0;");
+        Due.is("five at most: 10", z.way(0, 0), 7);
+        z.eyes(10);
+        Due.is("never", z.way(0, 0), FoundLast.NONE);
+    }
+
     private static void wayNo() {
         Due.sentence("promise 21: BAD; NO: not IN");
         Due.refused("one found", Due::livedIn, Due.NOS, x -> x.way(FOUND, 0));
@@ -524,6 +575,9 @@ public final class Promises1To22BoundsTest {
         FoundLast y = Due.told("house 6 3;list 1 2;door 3 2 1;heir 0 1 0;heir 0 3 0;heir 0 2 0;");
         Due.is("sooner by a night", y.choose(0, 1), 15);
         Due.is("as soon as the other, who stays", y.choose(1, 2), 2);
+        FoundLast z = Due.told("house 6 3;list 7 7 1;room 3 0;door 5 3 1;door 1 4 1;heir 0 1 0;heir 0 5 0;");
+        Due.is("found when the other was out long ago", z.choose(0, 1), 1 + 4);
+        Due.is("turned", z.choose(1, 0), 1 + 2);
     }
 
     private static void chooseNo() {

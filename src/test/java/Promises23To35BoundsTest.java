@@ -6,6 +6,7 @@ public final class Promises23To35BoundsTest {
 
     public static void main(String[] args) {
         oddsByEveryHiding();
+        oddsOfTheFirstAlone();
         oddsOfOneNotIn();
         oddsInLowestTerms();
         oddsChangeTheFractionAlone();
@@ -27,12 +28,14 @@ public final class Promises23To35BoundsTest {
         imagesAreTwo();
         imagesKeepWhatMayBeUndone();
         imagesKeepAllBut();
+        imagesKeepTheirOwnSeen();
         anImageOfNothing();
         statusCountsEachReason();
         statusIsNotTakenBack();
         whatIsNoRefusal();
         countOfNothingAndOfAll();
         digestOfNothingAndOfAll();
+        digestOfEachValue();
         Due.end();
     }
 
@@ -62,6 +65,24 @@ public final class Promises23To35BoundsTest {
         FoundLast z = Due.told("house 0 0;list 7;heir 0 0 0;");
         z.odds(0);
         fraction("he never looks there", z, 0, 1);
+    }
+
+    private static void oddsOfTheFirstAlone() {
+        Due.sentence("ODDS: the chance that an HEIR is among those FOUND first");
+        FoundLast x = Due.told("house 0 0;list 1 2 3 4;room 1 9;room 2 1;room 3 0;room 4 0;"
+            + "heir 0 1 9;heir 0 2 0;heir 0 3 0;heir 0 4 0;heir 0 2 3;");
+        int[] above = {7, 17, 1, 0, 14};
+        for (int h = 0; h < above.length; h++) {
+            // Eyes 19 .. 25; then 2 .. 18 (5 .. 18 find heir 4 with heir 1); then 1 alone; then none is left.
+            x.odds(h);
+            Due.is("heir " + h, x.part(0) * 25, above[h] * x.part(1));
+        }
+        x.only(3);
+        x.odds(2);
+        fraction("by all eyes", x, 1, 1);
+        x.only(0);
+        x.odds(2);
+        fraction("by none", x, 0, 1);
     }
 
     private static void oddsOfOneNotIn() {
@@ -501,6 +522,31 @@ public final class Promises23To35BoundsTest {
         Due.is("nor the other image", z.count(7), 2);
     }
 
+    private static void imagesKeepTheirOwnSeen() {
+        Due.sentence("IMAGES keep all (each its own SEEN, as many as there may be)");
+        FoundLast x = sixSeen();
+        long six = x.digest();
+        x.image(0);
+        x.forget();
+        for (int i = 1; i <= 6; i++) {
+            x.seen(7 - i, 12 - i, 1);
+        }
+        long others = x.digest();
+        x.image(1);
+        x.forget();
+        long none = x.digest();
+        x.from(0);
+        Due.is("six", x.digest(), six);
+        x.from(1);
+        Due.is("the others", x.digest(), others);
+        x.forget();
+        Due.is("none", x.digest(), none);
+        x.image(0);
+        x.from(1);
+        x.from(0);
+        Due.is("none from the other", x.count(6), 0);
+    }
+
     private static void anImageOfNothing() {
         Due.sentence("An IMAGE is kept (of a new object)");
         FoundLast x = new FoundLast();
@@ -636,6 +682,45 @@ public final class Promises23To35BoundsTest {
         FoundLast y = new FoundLast();
         y.heir(5, 7, 9);
         Due.is("since when none is told", y.digest(), ofOneHeir());
+    }
+
+    private static void digestOfEachValue() {
+        Due.sentence("promise 35: for each v, in their order");
+        FoundLast x = Due.told("house 9 2;list 3 6;heir 3 1 8;heir 0 3 1;");
+        for (int a = 0; a < 8; a++) {
+            x.room(a, a + 1);
+            for (int b = a + 1; b < 8; b++) {
+                x.door(b, a, 1 + (2 * a + b) % 9);
+            }
+        }
+        x.odds(1);
+        Due.is("heir 1 is found", x.night(), 2);
+        Due.after(x, 2);
+        x.seen(5, 11, 1);
+        Due.is("stayed", x.digest(), ofTwoHeirs(3, 3, 1, 8, 3, 0, -1, 0));
+        x.move(0, 4);
+        Due.is("moved", x.digest(), ofTwoHeirs(4, 3, 4, 8, 0, 0, -1, 1));
+    }
+
+    /** How many may be undone, and the values of the first heir. */
+    private static long ofTwoHeirs(int undone, int... first) {
+        long h = 1033;
+        for (int v : new int[] {2, 9, 2, 3, 1, 2, 1, undone, 41, 1, 2, 3, 4, 5, 6, 7, 8}) {
+            h = 31 * h + v;
+        }
+        for (int a = 0; a < 8; a++) {
+            for (int b = a + 1; b < 8; b++) {
+                h = 31 * h + 1 + (2 * a + b) % 9;
+            }
+        }
+        h = 31 * (31 * h + 3) + 6;
+        for (int v : first) {
+            h = 31 * h + v;
+        }
+        for (int v : new int[] {0, 3, 1, 0, 2, 0, 0, 5, 11, 1, 4, 5}) {
+            h = 31 * h + v;
+        }
+        return h;
     }
 
     private static long ofOneHeir() {

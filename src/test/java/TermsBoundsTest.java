@@ -358,7 +358,11 @@ public final class TermsBoundsTest {
     }
 
     private static void eyesOfNoneAndOfAll() {
-        Due.sentence("EYES (0 .. 25; 10 at first)");
+        Due.sentence("EYES (0 .. 25; 10 at first); promise 7: EYES: what they were");
+        FoundLast u = new FoundLast();
+        Due.is("eyes at first", u.eyes(0), 10);
+        Due.is("the least", u.eyes(25), 0);
+        Due.is("the most", u.eyes(10), 25);
         FoundLast x = Due.told("house 0 0;room 0 0;heir 0 0 0;");
         Due.is("eyes 0, hidden 0", x.night(), 0);
         Due.is("passed", x.passed(), 1);

@@ -33,6 +33,7 @@ public final class TextBoundsTest {
         theFaultIsTheFirst();
         theLastPlaceOfAFault();
         whatARefusedTextLeaves();
+        aTextBehindAFault();
         whatAReadHouseTakes();
         Due.end();
     }
@@ -464,6 +465,22 @@ public final class TextBoundsTest {
             String text = texts[i];
             Due.unchanging("read of <" + text + ">", () -> Due.typed(Due.livedIn(), text), -10 - places[i], x -> x.read());
         }
+    }
+
+    private static void aTextBehindAFault() {
+        Due.sentence("THE HOUSE is read (behind a FAULT, of the same TEXT and of others)");
+        FoundLast x = Due.typed(new FoundLast(), "house 1 1;heir 0 0 0;heir 6");
+        Due.is("a fault", x.read(), -36);
+        Due.is("the same again", x.read(), -36);
+        Due.typed(x, "house 2 2;list 7 6 5;heir 0 0");
+        Due.is("another", x.read(), -39);
+        Due.is("what ends it comes", x.type(' ') + x.type('9') + x.type(';'), 30 + 31 + 32);
+        Due.is("then it is read", x.read(), 3);
+        Due.is("one heir, not two", x.count(0), 1);
+        Due.is("its list", x.count(5), 3);
+        Due.typed(x, "house 3 3;");
+        Due.is("a third", x.read(), 1);
+        Due.is("none of the list before", x.count(5), 1);
     }
 
     private static void whatAReadHouseTakes() {
