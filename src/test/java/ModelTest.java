@@ -11,6 +11,8 @@ import java.util.Random;
  * and prints every call whose answers differ.
  */
 public final class ModelTest {
+    private static final int CALLS = 512;
+
     private static int wrong = 0;
     private static long compared = 0;
 
@@ -31,14 +33,14 @@ public final class ModelTest {
         // Some runs keep to few calls of one sort, so that deep states are reached, too.
         Draw draw = new Draw(random);
         int calls = 0;
-        while (calls < 500) {
-            for (int[] call : draw.next(model)) {
-                calls++;
-                compare(run, calls, call, real, model);
-            }
+        while (calls < CALLS) {
+            List<int[]> next = draw.next(model);
             if (random.nextInt(4) == 0) {
+                next.add(new int[] {34});
+            }
+            for (int i = 0; i < next.size() && calls < CALLS; i++) {
                 calls++;
-                compare(run, calls, new int[] {34}, real, model);
+                compare(run, calls, next.get(i), real, model);
             }
         }
     }
@@ -110,9 +112,11 @@ public final class ModelTest {
         private final Random random;
         private final int sharpness;
         private final int wildness;
+        private final int habit;
 
         Draw(Random random) {
             this.random = random;
+            this.habit = random.nextInt(8);
             this.sharpness = random.nextInt(3);
             this.wildness = random.nextInt(3) == 0 ? 6 : 40;
         }
@@ -125,8 +129,21 @@ public final class ModelTest {
             return least + random.nextInt(most - least + 1);
         }
 
+        /** For lives that are mostly nights, moves or images: none would come so far by chance. */
+        private int[] habitual(Model model) {
+            switch (habit) {
+                case 0: return new int[] {11};
+                case 1: return random.nextInt(2) == 0 ? moveCall(model) : new int[] {11 + random.nextInt(2)};
+                default: return random.nextInt(2) == 0 ? new int[] {29 + random.nextInt(2), in(0, 1)} : new int[] {11};
+            }
+        }
+
         List<int[]> next(Model model) {
             List<int[]> calls = new ArrayList<>();
+            if (habit < 3 && !model.heirs.isEmpty() && random.nextInt(5) > 0) {
+                calls.add(habitual(model));
+                return calls;
+            }
             int which = random.nextInt(100);
             if (which < 2) {
                 calls.add(new int[] {0, sharpness == 0 ? in(0, 25) : in(8, 20), sharpness == 2 ? in(0, 25) : in(0, 4)});
