@@ -6,7 +6,6 @@ import java.util.ArrayList;
 import java.util.List;
 import java.util.regex.Matcher;
 import java.util.regex.Pattern;
-import javax.tools.ToolProvider;
 
 /** Compiles the example of README.md and looks whether each call has the answer that stands behind it. */
 public final class ReadmeTest {
@@ -20,8 +19,8 @@ public final class ReadmeTest {
         Path work = Files.createTempDirectory("readme");
         Path source = work.resolve("ReadmeExample.java");
         Files.write(source, program(example(Files.readAllLines(README))));
-        int compiled = ToolProvider.getSystemJavaCompiler().run(null, null, null,
-            "-cp", System.getProperty("java.class.path"), "-d", work.toString(), source.toString());
+        int compiled = new ProcessBuilder("javac", "-cp", System.getProperty("java.class.path"),
+            "-d", work.toString(), source.toString()).inheritIO().start().waitFor();
         int wrong = compiled == 0 ? wrongAnswers(work) : 1;
         for (String name : new String[] {"ReadmeExample.class", "ReadmeExample.java"}) {
             Files.deleteIfExists(work.resolve(name));
