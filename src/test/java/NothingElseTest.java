@@ -610,12 +610,33 @@ public final class NothingElseTest {
                 unchanged(life, "from none", y -> y.from(1));
                 continue;
             }
+            FoundLast kept = life.make();
+            kept.image(which);
+            muchElse(kept);
+            Due.is("from", kept.from(which), 1);
+            Due.is(life.name + ", from " + i + ", much later", kept.count(7), life.make().count(7));
+            Shown later = new Shown(life.make());
+            Due.is(life.name + ", as it was kept", new Shown(kept).now.equals(later.now) ? 1 : 0, 1);
             FoundLast y = life.make();
             y.from(which);
             Shown then = new Shown(life.make());
             then.now.clear();
             then.now.addAll(then.images.get(which));
             new Shown(y).is(life.name + ", from " + i, then);
+        }
+    }
+
+    /** Another house, of which as much may be undone as can be; the text and the fraction stay. */
+    private static void muchElse(FoundLast x) {
+        x.house(25, 0);
+        for (int h = 0; h < 6; h++) {
+            x.heir(h, 7 - h, 9 - h);
+        }
+        x.door(7, 6, 9);
+        for (int i = 0; i < 6; i++) {
+            x.move(0, i % 2 == 0 ? 6 : 7);
+            x.night();
+            x.seen(i, i, 1);
         }
     }
 }

@@ -29,10 +29,15 @@ public final class Promises1To22BoundsTest {
         wayNotOut();
         wayFewestCreaks();
         wayOfOneWhoStays();
+        wayAmongOthers();
+        wayOfOneWhoStayedBefore();
+        wayOfEachSum();
         wayNo();
         chooseWithoutADoor();
         chooseLeastRoom();
         chooseOutOrNeverIsLast();
+        chooseWhenOneIsOutFirst();
+        chooseByCompany();
         chooseNo();
         Due.end();
     }
@@ -521,6 +526,69 @@ public final class Promises1To22BoundsTest {
         Due.is("never", z.way(0, 0), FoundLast.NONE);
     }
 
+    /** Heir 1, who comes to be OUT in NIGHT 0, is company for heir 0 all the nights that are looked at. */
+    private static void wayAmongOthers() {
+        Due.sentence("WAY: all others staying where they are, as they are (IN or not)");
+        FoundLast x = Due.told("house 7 3;list 0 1;heir 2 1 5;heir 1 1 0;");
+        Due.is("beside one who is in: half of 10", x.way(0, 0), 1);
+        Due.is("no creaks", x.way(0, 1), 0);
+        Due.is("by nights one is alone then", x.byThen(0, 2, 0), 0);
+        x.night();
+        Due.is("the other is out", x.of(1, 5), 1);
+        Due.is("beside one who is out: 10", x.way(0, 0), FoundLast.NONE);
+        FoundLast y = Due.told("house 7 3;list 1 0;heir 2 1 5;heir 0 1 1;door 0 1 4;");
+        Due.is("both are found now", y.way(0, 0), 0);
+        y.eyes(6);
+        Due.is("half of 10 is less than 6", y.way(0, 0), 0);
+        y.eyes(5);
+        Due.is("in no night", y.way(0, 0), FoundLast.NONE);
+        y.eyes(7);
+        y.room(1, 9);
+        Due.is("9 and 5, halved, is 7: the other room alone has 10", y.way(0, 0), FoundLast.NONE);
+        y.move(1, 0);
+        Due.is("beside the other one there: half of 10, in the next night", y.way(0, 0), 1);
+        Due.is("by the door", y.way(0, 1), 4);
+    }
+
+    /** Two still ones: 0 stirred in the last night, 1 has stayed since the first; both are in 7, and one goes to 6 first. */
+    private static void wayOfOneWhoStayedBefore() {
+        Due.sentence("WAY: an HEIR, by how many NIGHTS one STAYED before, MOVED or not (each its own)");
+        for (int stayed = 0; stayed <= 7; stayed++) {
+            FoundLast x = Due.told("house 0 0;list 7;door 6 7 3;door 5 6 2;heir 3 6 0;heir 3 7 0;");
+            Due.after(x, stayed);
+            Due.is("0 goes", x.move(0, 7), 3);
+            int hidden = 5 + Math.min(5, stayed);
+            for (int eyes = 5; eyes <= 12; eyes++) {
+                x.eyes(eyes);
+                Due.is("1 in room 7, stayed " + stayed + ", eyes " + eyes, x.way(1, 0),
+                    hidden < eyes ? stayed : eyes > 5 ? stayed + 1 : FoundLast.NONE);
+                Due.is("1, creaks, there and back", x.way(1, 1), hidden < eyes ? 0 : eyes > 5 ? 6 : FoundLast.NONE);
+                Due.is("0, just come, eyes " + eyes, x.way(0, 0), eyes > 5 ? stayed : FoundLast.NONE);
+            }
+            x.only(6);
+            x.eyes(6);
+            Due.is("1 may go now", x.way(1, 0), stayed);
+            Due.is("1, by the door", x.way(1, 1), 3);
+            Due.is("0 moved: the next night", x.way(0, 0), stayed + 1);
+            Due.is("0, by the door", x.way(0, 1), 3);
+            x.only(5);
+            Due.is("1, two doors", x.way(1, 0), stayed + 1);
+            Due.is("1, creaks of two doors", x.way(1, 1), 5);
+            Due.is("0, two doors, from the next night on", x.way(0, 0), stayed + 2);
+        }
+    }
+
+    private static void wayOfEachSum() {
+        Due.sentence("WAY: the fewest CREAKS (each sum of two doors)");
+        for (int one = 1; one <= 9; one++) {
+            for (int other = 1; other <= 9; other++) {
+                FoundLast x = Due.told("house 6 0;list 3;door 0 7 " + one + ";door 7 3 " + other + ";heir 0 0 0;");
+                Due.is("night", x.way(0, 0), 1);
+                Due.is("creaks", x.way(0, 1), one + other);
+            }
+        }
+    }
+
     private static void wayNo() {
         Due.sentence("promise 21: BAD; NO: not IN");
         Due.refused("one found", Due::livedIn, Due.NOS, x -> x.way(FOUND, 0));
@@ -564,6 +632,12 @@ public final class Promises1To22BoundsTest {
         y.move(0, 1);
         y.undo();
         Due.is("the same behind an undo", y.choose(0, 1), 2 + 8);
+        FoundLast z = Due.told("house 6 0;list 1;door 1 2 1;heir 0 1 0;heir 0 7 0;");
+        Due.is("a would stay", z.choose(0, 1), 1 + 4);
+        z.move(0, 2);
+        Due.is("a moved, and would go back all the same", z.choose(0, 1), 2 + 8);
+        Due.is("b moved", z.choose(1, 0), 4 + 8);
+        Due.is("though a may not move", z.move(0, 1), FoundLast.NO);
     }
 
     private static void chooseOutOrNeverIsLast() {
@@ -578,6 +652,40 @@ public final class Promises1To22BoundsTest {
         FoundLast z = Due.told("house 6 3;list 7 7 1;room 3 0;door 5 3 1;door 1 4 1;heir 0 1 0;heir 0 5 0;");
         Due.is("found when the other was out long ago", z.choose(0, 1), 1 + 4);
         Due.is("turned", z.choose(1, 0), 1 + 2);
+    }
+
+    /** Heir a is OUT in the next night wherever a is; b, who stays, is FOUND in the one behind it; all others are gone. */
+    private static void chooseWhenOneIsOutFirst() {
+        Due.sentence("CHOOSE: OUT, never: last (one is OUT before the other is FOUND)");
+        for (int a = 0; a < 6; a++) {
+            for (int b = 0; b < 6; b++) {
+                if (a == b) {
+                    continue;
+                }
+                FoundLast x = Due.told("house 9 3;list 7 6 5;door 0 1 1;door 5 4 1;");
+                for (int h = 0; h < 6; h++) {
+                    x.heir(0, h == a ? 0 : h == b ? 5 : 7, 0);
+                }
+                Due.is("the others are found", x.night(), 63 & ~(1 << a) & ~(1 << b));
+                x.room(0, 0);
+                x.room(1, 0);
+                Due.is("b stays", x.choose(a, b), 1 + 2);
+                Due.is("told the other way", x.choose(b, a), 1 + 4);
+            }
+        }
+    }
+
+    /** One who quarrels in room 0, into which he looks, is found beside the other, who never is. */
+    private static void chooseByCompany() {
+        Due.sentence("CHOOSE: each stays, or is in the ROOM behind a DOOR (who is there then quarrels)");
+        FoundLast x = Due.told("house 10 0;list 0;door 0 1 1;heir 2 0 9;heir 0 1 9;");
+        Due.is("b stays away", x.choose(0, 1), 1 + 2);
+        Due.is("told the other way", x.choose(1, 0), 1 + 4);
+        FoundLast y = Due.told("house 10 0;list 0;door 0 1 1;heir 2 0 9;heir 0 0 9;");
+        Due.is("b goes", y.choose(0, 1), 4 + 8);
+        Due.is("told the other way, a goes", y.choose(1, 0), 2 + 8);
+        y.seen(1, 1, 1);
+        Due.is("whatever was seen", y.choose(0, 1), 4 + 8);
     }
 
     private static void chooseNo() {

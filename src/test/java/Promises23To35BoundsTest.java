@@ -16,13 +16,17 @@ public final class Promises23To35BoundsTest {
         seenThatGainsay();
         waysFromTheFewestToTheMost();
         mayAtBothEnds();
+        mayFromEachNight();
         peekOfLikeOnes();
         peekOfTheGreaterPart();
         peekWithoutAWay();
         nightsOfNone();
         nightsOfThirty();
+        nightsWithoutOne();
+        nightsAtTheCut();
         nightsOfThoseWhoAreFound();
         nightsThoughMoved();
+        nightsOfThoseWhoStir();
         theFractionAtFirst();
         noImage();
         imagesAreTwo();
@@ -249,6 +253,34 @@ public final class Promises23To35BoundsTest {
         }
     }
 
+    /** Seven doors in a row: he is as many doors off, at most, as there are nights between, ahead or behind. */
+    private static void mayFromEachNight() {
+        Due.sentence("MAY: by some of them (all SEEN are so, in which NIGHT ever they were)");
+        for (int room = 0; room < 8; room++) {
+            for (int step = 0; step <= 12; step++) {
+                FoundLast x = new FoundLast();
+                for (int k = 0; k < 7; k++) {
+                    x.door(k, k + 1, 1);
+                }
+                x.seen(room, step, 1);
+                for (int m = 0; m <= 12; m++) {
+                    int due = 0;
+                    for (int r = 0; r < 8; r++) {
+                        due |= Math.abs(r - room) <= Math.abs(m - step) ? 1 << r : 0;
+                    }
+                    Due.is("in room " + room + " in " + step + ", may " + m, x.may(m), due);
+                }
+                int near = room == 7 ? 6 : room + 1;
+                int later = step == 12 ? 11 : step + 1;
+                x.seen(near, later, 0);
+                x.seen(room, later, 0);
+                int left = room == 7 || room == 0 ? 0 : 1 << (room - 1);
+                Due.is("not there, nor beside it on one side", x.may(later), left);
+                Due.is("so in " + step + " he was there, or no way is", x.may(step), left == 0 ? 0 : 1 << room);
+            }
+        }
+    }
+
     private static void peekOfLikeOnes() {
         Due.sentence("PEEK: of like ones the first");
         FoundLast x = new FoundLast();
@@ -357,6 +389,72 @@ public final class Promises23To35BoundsTest {
         return found;
     }
 
+    /** Six plain ones in a house in which all rooms but 7 have doors; he looks into 6; each one in turn was FOUND before. */
+    private static void nightsWithoutOne() {
+        Due.sentence("NIGHTS by a SEED: for each HEIR in order X becomes ..; one MOVES, if one is IN");
+        for (int gone = -1; gone < 6; gone++) {
+            FoundLast x = new FoundLast();
+            x.house(9, 0);
+            for (int a = 0; a < 7; a++) {
+                for (int b = a + 1; b < 7; b++) {
+                    x.door(a, b, 1);
+                }
+            }
+            x.only(7);
+            for (int h = 0; h < 6; h++) {
+                x.heir(0, h == gone ? 7 : h, 0);
+            }
+            Due.is("found before", x.night(), gone < 0 ? 0 : 1 << gone);
+            x.only(6);
+            for (int seed = 0; seed < 20; seed++) {
+                for (int n = 0; n <= 4; n++) {
+                    Due.is("without " + gone + ", seed " + seed + ", n " + n, x.nights(seed, n), foundIn6(gone, seed, n));
+                }
+            }
+        }
+    }
+
+    private static int foundIn6(int gone, int seed, int n) {
+        int[] rooms = roomsTold(seed, 6 * n);
+        int found = gone < 0 ? 0 : 1;
+        for (int h = 0; h < 6; h++) {
+            boolean in = h != gone;
+            int room = h;
+            for (int night = 0; night < n && in; night++) {
+                int to = rooms[6 * night + h];
+                room = to < 7 ? to : room;
+                if (room == 6) {
+                    in = false;
+                    found++;
+                }
+            }
+        }
+        return found;
+    }
+
+    /** The seeds by which 65535, and 0, are left over when the first X is cut by 65536. */
+    private static void nightsAtTheCut() {
+        Due.sentence("NIGHTS by a SEED: X by 65536 (cut), by 8 left over");
+        for (int left : new int[] {0, 1, 65534, 65535}) {
+            for (int seed = 0; seed <= 999999; seed++) {
+                long x = (seed * 1103515245L + 12345L) % 2147483648L;
+                if (x % 65536 == left) {
+                    int to = (int) (x / 65536 % 8);
+                    for (int looked = 0; looked < 8; looked++) {
+                        int from = (to + 3) % 8;
+                        FoundLast y = new FoundLast();
+                        for (int r = 0; r < 8; r++) {
+                            y.door(from, r, 1);
+                        }
+                        y.only(looked);
+                        y.heir(0, from, 0);
+                        Due.is("seed " + seed + " to " + to, y.nights(seed, 1), looked == to ? 1 : 0);
+                    }
+                }
+            }
+        }
+    }
+
     private static void nightsOfThoseWhoAreFound() {
         Due.sentence("NIGHTS by a SEED: how many HEIRS are FOUND then");
         FoundLast x = Due.told("house 9 6;heir 0 0 1;heir 0 0 0;heir 0 7 1;heir 0 0 3;heir 0 0 4;");
@@ -384,6 +482,54 @@ public final class Promises23To35BoundsTest {
         Due.is("one may still not move", x.move(0, 1), FoundLast.NO);
         x.room(7, 9);
         Due.is("hidden as much as eyes there", x.nights(seed, 1), 0);
+    }
+
+    private static void nightsOfThoseWhoStir() {
+        Due.sentence("NIGHTS by a SEED: the ROOM to which one MOVES (STAYED for 0 NIGHTS then)");
+        int seed = seedOfSixMoves();
+        int last = roomsTold(seed, 6)[5];
+        for (int kind = 3; kind <= 4; kind++) {
+            FoundLast x = new FoundLast();
+            x.house(0, 0);
+            for (int a = 0; a < 8; a++) {
+                for (int b = a + 1; b < 8; b++) {
+                    x.door(a, b, 1);
+                }
+            }
+            x.only(last);
+            x.heir(kind, 0, 0);
+            int hidden = kind == 3 ? 5 : 0;
+            x.eyes(hidden + 1);
+            Due.is("five nights, kind " + kind, x.nights(seed, 5), 0);
+            Due.is("the sixth, just come: found", x.nights(seed, 6), 1);
+            x.eyes(hidden);
+            Due.is("hidden as much as eyes", x.nights(seed, 6), 0);
+        }
+    }
+
+    /** One who begins in room 0 goes to another room each time, the sixth of which is none of those before. */
+    private static int seedOfSixMoves() {
+        for (int seed = 0; seed < 999999; seed++) {
+            int[] rooms = roomsTold(seed, 6);
+            boolean fits = rooms[0] != 0 && rooms[5] != 0;
+            for (int i = 0; i < 5; i++) {
+                fits &= rooms[i] != rooms[i + 1] && rooms[i] != rooms[5];
+            }
+            if (fits) {
+                return seed;
+            }
+        }
+        return -1;
+    }
+
+    private static int[] roomsTold(int seed, int count) {
+        int[] rooms = new int[count];
+        long x = seed;
+        for (int i = 0; i < count; i++) {
+            x = (x * 1103515245L + 12345L) % 2147483648L;
+            rooms[i] = (int) (x / 65536 % 8);
+        }
+        return rooms;
     }
 
     /** The first seed by which the first X tells this room. */

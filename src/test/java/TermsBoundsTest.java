@@ -17,6 +17,7 @@ public final class TermsBoundsTest {
         coughs();
         quarrelIsCut();
         quarrelNeedsAnotherWhoIsIn();
+        whomStayingHides();
         still();
         bell();
         poser();
@@ -256,6 +257,21 @@ public final class TermsBoundsTest {
         Due.is("one out is none", y.of(0, 4), 8);
     }
 
+    private static void whomStayingHides() {
+        Due.sentence("KINDS, each under the one told: who STAYED is HIDDEN better as STILL, POSER, and once as BELL, alone");
+        FoundLast x = Due.told("house 0 7;list 7;heir 0 0 9;heir 1 0 9;heir 2 0 9;heir 2 1 9;heir 3 2 2;heir 4 2 9;");
+        for (int night = 0; night < 8; night++) {
+            Due.is("plain, night " + night, x.of(0, 4), 14);
+            Due.is("coughs, night " + night, x.of(1, 4), 11);
+            Due.is("quarrel among others, night " + night, x.of(2, 4), 7);
+            Due.is("quarrel alone, night " + night, x.of(3, 4), 14);
+            Due.is("still, night " + night, x.of(4, 4), 7 + Math.min(5, night));
+            Due.is("bell, night " + night, x.of(5, 4), night == 0 ? 9 : 11);
+            x.seen(night % 8, night, 0);
+            x.night();
+        }
+    }
+
     private static void still() {
         Due.sentence("3 STILL: PLAIN, and for how many NIGHTS one STAYED (5 at most)");
         FoundLast x = Due.told("house 0 0;list 7;heir 3 0 0;");
@@ -305,6 +321,21 @@ public final class TermsBoundsTest {
         Due.is("less: out", y.of(0, 5), 1);
         Due.is("as much: in", y.of(1, 5), 0);
         Due.is("and stayed, still so much", y.of(1, 4), 7);
+        y.room(0, 3);
+        Due.is("5 and one night: less than the rule", y.of(1, 4), 6);
+        Due.is("6 and one night: as much", y.of(2, 4), 7);
+        Due.after(y, 1);
+        Due.is("out", y.of(1, 5), 1);
+        Due.is("in, though plain is less than the rule", y.of(2, 5), 0);
+        y.room(0, 2);
+        Due.is("5 and two nights", y.of(2, 4), 7);
+        Due.after(y, 4);
+        y.room(0, 0);
+        Due.is("3 and six nights, of which five count", y.of(2, 4), 7);
+        y.room(1, 0);
+        y.door(0, 1, 1);
+        y.move(2, 1);
+        Due.is("3 and none", y.of(2, 4), 3);
     }
 
     private static void lessThanTheRule() {

@@ -14,6 +14,7 @@ public final class TextBoundsTest {
         houseOnceFirstOfAll();
         endsTooEarly();
         everyPrefix();
+        everyPrefixBehindAClear();
         wordsThatAreNone();
         everyByteWhereAnItemBegins();
         everyByteBehindANumber();
@@ -190,6 +191,21 @@ public final class TextBoundsTest {
         }
     }
 
+    /** What was typed ahead of a clear stands behind the text no more. */
+    private static void everyPrefixBehindAClear() {
+        Due.sentence("THE TEXT is empty (and what it had is no part of what comes then)");
+        String text = " house 25 03; room 7 9;door 0 7 9;list 1 02;heir 5 7 9; ";
+        for (char old : new char[] {' ', 'a', 'e', '0', '1', '9', ';'}) {
+            for (int length = 0; length <= text.length(); length++) {
+                String part = text.substring(0, length);
+                int due = Due.typed(new FoundLast(), part).read();
+                FoundLast x = Due.typed(new FoundLast(), String.valueOf(old).repeat(MOST));
+                x.clear();
+                Due.is("read of <" + part + "> where there was " + old, Due.typed(x, part).read(), due);
+            }
+        }
+    }
+
     private static void wordsThatAreNone() {
         Due.sentence("FAULT: a word that is none");
         String[] words = {"a", "z", "hous", "houses", "roo", "rooms", "doo", "doors", "lis", "lists", "hei", "heirs", "moor", "roomdoor",
@@ -286,6 +302,16 @@ public final class TextBoundsTest {
 
     private static void aThirdFigure() {
         Due.sentence("FAULT: a third figure's number");
+        for (String number : new String[] {"000", "001", "099", "100", "149", "150", "151", "999", "0000000000", "2147483648",
+            "4294967296", "99999999999999999999"}) {
+            fault("house 1 1;" + number, 10);
+            fault("house 1 1;" + number + ";", 10);
+            fault(number, 0);
+            fault("house " + number, 6);
+            fault("house 1 " + number + ";", 8);
+            fault("house 1 1;list 1 " + number + ";", 17);
+            fault("house 1 1 " + number, 10);
+        }
         fault("house 000 0;", 6);
         fault("house 001 1;", 6);
         fault("house 1 025;", 8);
