@@ -17,7 +17,7 @@ public final class ModelTest {
     private static long compared = 0;
 
     public static void main(String[] args) {
-        for (int run = 0; run < 1500 && wrong < 20; run++) {
+        for (int run = 0; run < 2500 && wrong < 20; run++) {
             oneRun(run);
         }
         System.out.println(wrong == 0 ? compared + " answers are as the model's" : wrong + " answers differ");
@@ -113,10 +113,12 @@ public final class ModelTest {
         private final int sharpness;
         private final int wildness;
         private final int habit;
+        private final boolean crowded;
 
         Draw(Random random) {
             this.random = random;
             this.habit = random.nextInt(8);
+            this.crowded = random.nextInt(2) == 0;
             this.sharpness = random.nextInt(3);
             this.wildness = random.nextInt(3) == 0 ? 6 : 40;
         }
@@ -127,6 +129,15 @@ public final class ModelTest {
                 return wild[random.nextInt(wild.length)];
             }
             return least + random.nextInt(most - least + 1);
+        }
+
+        /** In a crowded house there are few rooms and many who quarrel: so what one does shows in others. */
+        private int room() {
+            return crowded && random.nextInt(8) > 0 ? in(0, 2) : in(0, 7);
+        }
+
+        private int kind() {
+            return crowded && random.nextInt(2) == 0 ? in(2, 2) : in(0, 5);
         }
 
         /** For lives that are mostly nights, moves or images: none would come so far by chance. */
@@ -148,6 +159,11 @@ public final class ModelTest {
             if (which < 2) {
                 calls.add(new int[] {0, sharpness == 0 ? in(0, 25) : in(8, 20), sharpness == 2 ? in(0, 25) : in(0, 4)});
                 furnish(calls);
+            } else if (which < 6 && crowded) {
+                // While some are about to go out, and he sees those alone no more.
+                calls.add(new int[] {0, in(4, 11), in(2, 8)});
+                furnish(calls);
+                askOfEach(calls);
             } else if (which < 4) {
                 calls.add(new int[] {8});
                 for (char c : text().toCharArray()) {
@@ -155,13 +171,13 @@ public final class ModelTest {
                 }
                 calls.add(new int[] {9});
             } else if (which < 6) {
-                calls.add(random.nextInt(3) == 0 ? new int[] {4, in(0, 7)} : new int[] {3, in(0, 7)});
+                calls.add(random.nextInt(3) == 0 ? new int[] {4, room()} : new int[] {3, room()});
             } else if (which < 12) {
-                calls.add(new int[] {6, in(0, 5), in(0, 7), in(0, 9)});
+                calls.add(new int[] {6, kind(), room(), in(0, 9)});
             } else if (which < 15) {
-                calls.add(new int[] {2, in(0, 7), in(0, 7), in(1, 9)});
+                calls.add(new int[] {2, room(), room(), in(1, 9)});
             } else if (which < 17) {
-                calls.add(new int[] {1, in(0, 7), in(0, 9)});
+                calls.add(new int[] {1, room(), in(0, 9)});
             } else if (which < 29) {
                 calls.add(moveCall(model));
             } else if (which < 37) {
@@ -169,7 +185,7 @@ public final class ModelTest {
             } else if (which < 42) {
                 calls.add(new int[] {12});
             } else if (which < 46) {
-                calls.add(new int[] {22, in(0, 7), in(0, 12), random.nextInt(3) == 0 ? in(1, 1) : in(0, 0)});
+                calls.add(new int[] {22, room(), in(0, 12), random.nextInt(3) == 0 ? in(1, 1) : in(0, 0)});
             } else if (which < 48) {
                 calls.add(random.nextInt(3) == 0 ? new int[] {23} : new int[] {25});
             } else {
@@ -181,21 +197,33 @@ public final class ModelTest {
         private void furnish(List<int[]> calls) {
             int doors = random.nextInt(8);
             for (int i = 0; i < doors; i++) {
-                calls.add(new int[] {2, in(0, 7), in(0, 7), in(1, 9)});
+                calls.add(new int[] {2, room(), room(), in(1, 9)});
             }
             int rooms = random.nextInt(5);
             for (int i = 0; i < rooms; i++) {
-                calls.add(new int[] {3, in(0, 7)});
+                calls.add(new int[] {3, room()});
             }
             int heirs = random.nextInt(7);
             for (int i = 0; i < heirs; i++) {
-                calls.add(new int[] {6, in(0, 5), in(0, 7), in(0, 9)});
+                calls.add(new int[] {6, kind(), room(), in(0, 9)});
             }
+        }
+
+        private void askOfEach(List<int[]> calls) {
+            for (int h = 0; h < 6; h++) {
+                calls.add(new int[] {18, h});
+                calls.add(new int[] {19, h, 0});
+                calls.add(new int[] {20, h, (h + 1) % 6});
+                calls.add(new int[] {21, h});
+                calls.add(new int[] {28, 0});
+                calls.add(new int[] {15, h, 60, 1});
+            }
+            calls.add(new int[] {27, in(0, 999999), in(0, 30)});
         }
 
         private int[] moveCall(Model model) {
             if (model.heirs.isEmpty() || random.nextInt(4) == 0) {
-                return new int[] {10, in(0, 5), in(0, 7)};
+                return new int[] {10, in(0, 5), room()};
             }
             int heir = random.nextInt(model.heirs.size());
             for (int tries = 0; tries < 8; tries++) {
@@ -204,7 +232,7 @@ public final class ModelTest {
                     return new int[] {10, heir, room};
                 }
             }
-            return new int[] {10, heir, in(0, 7)};
+            return new int[] {10, heir, room()};
         }
 
         private int[] question() {

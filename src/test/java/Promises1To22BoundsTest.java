@@ -23,6 +23,7 @@ public final class Promises1To22BoundsTest {
         passed();
         hide();
         hideNo();
+        othersGoOut();
         wayOfTwelveNights();
         wayMovedAlready();
         wayWithoutADoor();
@@ -416,6 +417,35 @@ public final class Promises1To22BoundsTest {
         Due.refused("one found", Due::livedIn, Due.NOS, x -> x.hide(FOUND));
         Due.refused("one out", Due::livedIn, Due.NOS, x -> x.hide(OUT));
         Due.refused("one more than there are", Due::livedIn, Due.BADS, x -> x.hide(5));
+    }
+
+    /** Heir 1, with whom heir 0 quarrels, is OUT in NIGHT 0, ahead of the NIGHT in which he looks there: 0 is alone then. */
+    private static void othersGoOut() {
+        Due.sentence("if all stay; all others staying (they are OUT as nights go)");
+        FoundLast x = Due.told("house 7 3;list 7 0;heir 2 0 5;heir 1 0 0;heir 0 6 9;");
+        Due.is("half of 10 as yet", x.of(0, 4), 5);
+        Due.is("byThen", x.byThen(0, 60, 0), 0);
+        Due.is("byThen of the other", x.byThen(1, 60, 1), 0);
+        Due.is("first", x.first(0), FoundLast.NONE);
+        Due.is("hide", x.hide(0), FoundLast.NONE);
+        x.door(2, 6, 1);
+        Due.is("choose: never, never", x.choose(0, 2), 15);
+        Due.is("nights", x.nights(0, 30), 0);
+        x.odds(0);
+        Due.is("odds of 11 to 25, above", x.part(0), 3);
+        Due.is("odds, below", x.part(1), 5);
+        x.room(0, 6);
+        Due.is("the other stays in: byThen", x.byThen(0, 60, 1), 1);
+        Due.is("first", x.first(1), 3);
+        Due.is("hide", x.hide(0), 0);
+        Due.is("nights", x.nights(0, 30), 2);
+        x.odds(0);
+        Due.is("odds of 6 to 25, above", x.part(0), 4);
+        Due.is("odds, below", x.part(1), 5);
+        FoundLast y = Due.told("house 7 3;list 0 1;heir 2 0 5;heir 1 1 0;");
+        Due.is("nobody is left in room 1 when he looks there", y.hide(0), FoundLast.NONE);
+        y.room(1, 6);
+        Due.is("somebody is", y.hide(0), 1);
     }
 
     private static void wayOfTwelveNights() {
